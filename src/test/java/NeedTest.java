@@ -55,6 +55,7 @@ final class NeedTest {
         neededIs("0 = 0", 0, NOTHING, NOTHING);
         neededIs("one", 1, x0(1));
         neededIs("one twice", 1, x0(1), x0(1));
+        neededIs("one six times", 1, x0(1), x0(1), x0(1), x0(1), x0(1), x0(1));
         neededIs("one and its double", 1, x0(1), Digits.of(2, 0, 0, 0, 2));
         neededIs("two and their sum", 2, x0(1), x1(2), sum(3));
         neededIs("two, their sum and 0 = 0", 2, NOTHING, sum(3), x1(2), x0(1));
@@ -68,6 +69,7 @@ final class NeedTest {
         int x3 = Digits.of(0, 0, 0, 1, 0);
         int all = Digits.of(1, 1, 1, 1, 1);
         neededIs("0 = 3", 1, NEVER);
+        neededIs("0 = 3 six times", 1, NEVER, NEVER, NEVER, NEVER, NEVER, NEVER);
         neededIs("0 = 3 among others", 1, x0(1), x1(2), sum(4), NEVER);
         neededIs("two against each other", 2, x0(1), x0(2));
         neededIs("three against each other", 3, x0(1), x1(2), sum(4));
