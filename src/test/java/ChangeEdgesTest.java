@@ -13,6 +13,7 @@ final class ChangeEdgesTest {
         addAnswersNumbersFromZero();
         addIsOnAgainAfterDrop();
         setPlaces();
+        setOneNumberAlone();
         setModuloSeven();
         setNoSuchEquation();
         setNoSuchPlace();
@@ -127,6 +128,20 @@ final class ChangeEdgesTest {
             Check.same("promise 3: the factor was 3", x.set(0, unknown, 0), 3);
             Check.same("promise 3: e was 6", x.set(0, 4, 0), 6);
             Check.same("promise 3: 0 = 0", x.solutions(), 2401);
+        }
+    }
+
+    // Promise 3: "Sets one number of an equation": none beside it, nor whether the equation is on.
+    private static void setOneNumberAlone() {
+        for (int sample = 0; sample < Samples.COUNT; sample++) {
+            ModSolver x = Samples.make(sample);
+            for (int equation = 0; equation < Samples.size(sample); equation++) {
+                for (int place = 0; place < 5; place++) {
+                    int old = x.set(equation, place, 5);
+                    Check.same("promise 3: set and set back", x.set(equation, place, old), 5);
+                }
+            }
+            isAsMade("promise 3: all set back", x, sample);
         }
     }
 
